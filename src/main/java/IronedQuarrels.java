@@ -171,7 +171,7 @@ public final class IronedQuarrels {
             case STAIN:
                 return Integer.bitCount(company.suspects(heap, i));
             case PRIDE:
-                return heap.priceNow(i) - heap.heatNow(i) - heap.fact(i, Heap.WEIGHT) + 100;
+                return heap.priceNow(i) - heap.heatNow(i) - heap.weightOf(i) + 100;
             case SORRY:
                 return Integer.bitCount(heap.answerers(i) & heap.saidBits());
             default:
@@ -420,7 +420,7 @@ public final class IronedQuarrels {
         if (heap.isOf(i, COLOUR)) {
             step += 2;
         }
-        return (heap.fact(i, Heap.TOPIC) + n * step) % TOPICS;
+        return (heap.topicOf(i) + n * step) % TOPICS;
     }
 
     public int lots(int n, int seed) {
@@ -821,6 +821,27 @@ public final class IronedQuarrels {
             }
         }
 
+        int whoOf(int i) {
+            return whos[i];
+        }
+
+        int toWhomOf(int i) {
+            return toWhoms[i];
+        }
+
+        int topicOf(int i) {
+            return topics[i];
+        }
+
+        int weightOf(int i) {
+            return weights[i];
+        }
+
+        /** The number of the SAYING that one ANSWERS, or NONE. */
+        int answeredBy(int i) {
+            return answered[i];
+        }
+
         // ---- deeds
 
         void noteComing() {
@@ -1093,6 +1114,9 @@ public final class IronedQuarrels {
 
     /** ORDERS. What is left to unsay is a set, and the least COST of a set is weighed once. */
     private static final class Ironing {
+        /** Twelve PRICES are far less. */
+        private static final int ABOVE_ALL_COSTS = 1000000;
+
         private final int[] least = new int[1 << MOST_SAYINGS];
         private final int[] others = new int[MOST_SAYINGS];
         private final int[] holders = new int[MOST_SAYINGS];
@@ -1114,7 +1138,7 @@ public final class IronedQuarrels {
         }
 
         private int leastOf(Heap heap, int left) {
-            int cost = Integer.MAX_VALUE;
+            int cost = ABOVE_ALL_COSTS;
             for (int i = 0; i < heap.howMany(); i++) {
                 if (canGo(i, left)) {
                     cost = Math.min(cost, costFrom(heap, i, left));
@@ -1180,11 +1204,11 @@ public final class IronedQuarrels {
         /** Those who can have said a STAIN. */
         int suspects(Heap heap, int i) {
             int persons = ALL;
-            int answered = heap.fact(i, Heap.ANSWERS);
+            int answered = heap.answeredBy(i);
             if (heap.hasNumber(answered)) {
-                persons = heap.toldAhead(i) & ~bit(heap.fact(answered, Heap.WHO));
+                persons = heap.toldAhead(i) & ~bit(heap.whoOf(answered));
             }
-            return persons & ~bit(heap.fact(i, Heap.TO_WHOM));
+            return persons & ~bit(heap.toWhomOf(i));
         }
 
         /** Those who are in a ring, if these are sent away. */
@@ -1209,8 +1233,8 @@ public final class IronedQuarrels {
         private void listen(Heap heap, int gone) {
             Arrays.fill(tells, 0);
             for (int i = 0; i < heap.howMany(); i++) {
-                int who = heap.fact(i, Heap.WHO);
-                int toWhom = heap.fact(i, Heap.TO_WHOM);
+                int who = heap.whoOf(i);
+                int toWhom = heap.toWhomOf(i);
                 if (heap.isSaid(i) && !hasBit(gone, who) && !hasBit(gone, toWhom)) {
                     tells[who] |= bit(toWhom);
                 }

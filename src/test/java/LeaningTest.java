@@ -63,6 +63,7 @@ public final class LeaningTest {
     private static void bundles() {
         IronedQuarrels x = new IronedQuarrels();
         bundlesAre(x, 0, 0);
+        bundlesAre(Texts.heapOf("s0101-"), 1, 1);
         x = Texts.heapOf(TREES);
         bundlesAre(x, 2, 9);
         x.unsay(0);

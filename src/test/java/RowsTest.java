@@ -171,6 +171,7 @@ public final class RowsTest {
         finds("mean of none", x.mean(0), x, 4);
         DUE.is("asked() stays", x.asked(), 0);
         meanIs(x, 2, 1, 2, 3);
+        meanIs(x, -8, -8);
         meanIs(x, 2, 2, 3);
         meanIs(x, -2, -2, -3);
         meanIs(x, 0, -1, 0);

@@ -11,6 +11,7 @@ public final class TellingTest {
         upperLower();
         count();
         countPrices();
+        countFull();
         finding();
         findingStays();
         digestOfNew();
@@ -151,6 +152,20 @@ public final class TellingTest {
         countsAre(x, 2, 1, 1, 3);
         x.unsay(1);
         countsAre(x, 2, 0, 2, 0);
+        countsAre(Texts.heapOf("o0101-c1001Ay1001A"), 3, 3, 0, 3 + 3 + 2, 1, 2, 0, 1, 0);
+    }
+
+    private static void countFull() {
+        IronedQuarrels x = Texts.heapOf("c0109-".repeat(12));
+        countsAre(x, 12, 12, 0, 12 * 12, 1, 12, 0, 1, 0);
+        DUE.is("all have its TOPIC", Texts.heapOf("c0109-" + "c0109A".repeat(11)).mark(11, 5), 12);
+        DUE.is("bill(0)", x.bill(0), 1);
+        DUE.is("all of it", x.upper(), x.lower());
+        // what went again is counted no more
+        x = new IronedQuarrels();
+        x.say(1, 10, 1, NONE);
+        x.undo(0);
+        countsAre(x, 0, 0, 0, 0, 0, 0, 0, 0, 0);
     }
 
     private static void finding() {

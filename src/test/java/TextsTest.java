@@ -257,6 +257,7 @@ public final class TextsTest {
         DUE.is("mark(4, SORRY)", x.mark(4, 4), 1);
         DUE.is("mark(6, COLOUR)", x.mark(6, 5), 3);
         DUE.is("mark(7, COLOUR)", x.mark(7, 5), 3);
+        DUE.is("a COLOUR with the first one", Texts.heapOf("s0131-c1031As2321Ac2331-").mark(1, 5), 2);
         x.unsay(7);
         x.unsay(6);
         DUE.is("mark(6, COLOUR), two UNSAID", x.mark(6, 5), 3);
