@@ -1,4 +1,3 @@
-import java.lang.reflect.Method;
 import java.util.ArrayList;
 import java.util.List;
 import java.util.Random;
@@ -13,23 +12,17 @@ public final class AgainstModelTest {
     private static final int[] ODD = {Integer.MAX_VALUE, Integer.MIN_VALUE, -1, -9, 100, 1 << 16, -2, 33};
     private static final String[] OFTEN = {"say", "unsay", "undo", "on", "keep", "lots", "cheapest", "judge",
             "asked", "upper", "lower", "last", "mark", "end", "rings", "away", "bill", "whose", "wash", "said"};
-    private final TreeMap<String, Method> face = new TreeMap<>();
     private final TreeMap<String, Integer> refusals = new TreeMap<>();
     private final List<String> names = new ArrayList<>();
     private final Due due = new Due();
 
-    public static void main(String[] args) throws Exception {
+    public static void main(String[] args) {
         AgainstModelTest test = new AgainstModelTest();
-        for (Method method : IronedQuarrels.class.getDeclaredMethods()) {
-            if (java.lang.reflect.Modifier.isPublic(method.getModifiers())) {
-                test.face.put(method.getName(), method);
-            }
-        }
-        test.names.addAll(test.face.keySet());
+        test.names.addAll(Calls.names());
         for (int k = 0; k < 3; k++) {
             test.names.addAll(List.of(OFTEN));
         }
-        test.due.is("methods of the face", test.face.size(), 42);
+        test.due.is("methods of the face", Calls.names().size(), 42);
         int runs = args.length > 0 ? Integer.parseInt(args[0]) : RUNS;
         for (int seed = 1; seed <= runs; seed++) {
             test.run(new Random(seed));
@@ -38,7 +31,7 @@ public final class AgainstModelTest {
         test.due.finish("AgainstModelTest");
     }
 
-    private void run(Random random) throws Exception {
+    private void run(Random random) {
         IronedQuarrels x = new IronedQuarrels();
         Model model = new Model();
         boolean sorries = random.nextBoolean();
@@ -58,17 +51,10 @@ public final class AgainstModelTest {
         }
     }
 
-    private void compare(IronedQuarrels x, Model model, String name, int... arguments) throws Exception {
-        Method method = face.get(name);
-        Object[] boxed = new Object[arguments.length];
-        StringBuilder call = new StringBuilder(name);
-        for (int k = 0; k < boxed.length; k++) {
-            boxed[k] = arguments[k];
-            call.append(k == 0 ? "(" : ", ").append(arguments[k]);
-        }
-        long got = ((Number) method.invoke(x, boxed)).longValue();
+    private void compare(IronedQuarrels x, Model model, String name, int... arguments) {
+        long got = Calls.call(x, name, arguments);
         long want = model.call(name, arguments);
-        due.is(call.toString(), got, want);
+        due.is(Calls.told(name, arguments), got, want);
         if (want < 0 && want > -10) {
             String finding = want == -3 ? " " + model.call("finding") : "";
             refusals.merge(name + " " + want + finding, 1, Integer::sum);
@@ -76,7 +62,7 @@ public final class AgainstModelTest {
     }
 
     /** A TEXT of some SAYINGS, now and then with a wrong sign, that is made a HEAP. */
-    private int heapByChance(IronedQuarrels x, Model model, Random random, boolean sorries) throws Exception {
+    private int heapByChance(IronedQuarrels x, Model model, Random random, boolean sorries) {
         StringBuilder signs = new StringBuilder();
         int many = random.nextInt(13);
         int persons = 2 + random.nextInt(5);
@@ -106,7 +92,7 @@ public final class AgainstModelTest {
     }
 
     private int[] argumentsOf(String name, Random random) {
-        int[] arguments = new int[face.get(name).getParameterCount()];
+        int[] arguments = new int[Calls.howManyArguments(name)];
         for (int k = 0; k < arguments.length; k++) {
             arguments[k] = random.nextInt(25) == 0 ? ODD[random.nextInt(ODD.length)] : likely(name, k, random);
         }

@@ -21,19 +21,14 @@ public final class TextsTest {
         DUE.finish("TextsTest");
     }
 
-    private static void finds(String call, int got, IronedQuarrels x, int finding) {
-        DUE.is(call, got, FINDING);
-        DUE.is("finding of " + call, x.finding(), finding);
-    }
-
     private static void text() {
         IronedQuarrels x = new IronedQuarrels();
         DUE.is("text(-1, 0)", x.text(-1, 0), BAD);
         DUE.is("text(4, 0)", x.text(4, 0), BAD);
         DUE.is("text(0, 81)", x.text(0, 81), BAD);
         DUE.is("text(4, -1) is BAD ahead of SIZE", x.text(4, -1), BAD);
-        finds("text(0, -1)", x.text(0, -1), x, 5);
-        finds("text(0, least)", x.text(0, Integer.MIN_VALUE), x, 5);
+        DUE.finds("text(0, -1)", x.text(0, -1), x, 5);
+        DUE.finds("text(0, least)", x.text(0, Integer.MIN_VALUE), x, 5);
         DUE.is("no TEXT", x.count(7), 0);
         DUE.is("text(3, 80)", x.text(3, 80), 80);
         DUE.is("text(0, 0)", x.text(0, 0), 0);
@@ -43,17 +38,17 @@ public final class TextsTest {
         }
         DUE.is("anew", x.text(3, 2), 2);
         DUE.is("a blank again", x.put(3, 1, 1), 1032);
-        finds("put(3, 2, 0)", x.put(3, 2, 0), x, 2);
+        DUE.finds("put(3, 2, 0)", x.put(3, 2, 0), x, 2);
     }
 
     private static void put() {
         IronedQuarrels x = new IronedQuarrels();
         DUE.is("put(-1, 0, 0)", x.put(-1, 0, 0), BAD);
         DUE.is("put(4, 0, 0)", x.put(4, 0, 0), BAD);
-        finds("put(0, 0, 0)", x.put(0, 0, 0), x, 1);
+        DUE.finds("put(0, 0, 0)", x.put(0, 0, 0), x, 1);
         x.text(0, 1);
-        finds("put(0, 1, 0)", x.put(0, 1, 0), x, 2);
-        finds("put(0, -1, 0)", x.put(0, -1, 0), x, 2);
+        DUE.finds("put(0, 1, 0)", x.put(0, 1, 0), x, 2);
+        DUE.finds("put(0, -1, 0)", x.put(0, -1, 0), x, 2);
         DUE.is("blank ahead", x.put(0, 0, 127), 1032);
         DUE.is("127 ahead", x.put(0, 0, 128), 1127);
         DUE.is("128 is cut to -128", x.put(0, 0, 255), 872);
@@ -146,7 +141,7 @@ public final class TextsTest {
         IronedQuarrels x = new IronedQuarrels();
         DUE.is("fault(-1)", x.fault(-1), BAD);
         DUE.is("fault(4)", x.fault(4), BAD);
-        finds("fault(3)", x.fault(3), x, 1);
+        DUE.finds("fault(3)", x.fault(3), x, 1);
     }
 
     private static void heap() {
@@ -163,8 +158,8 @@ public final class TextsTest {
         DUE.is("heap(3)", x.heap(3), 1);
         DUE.is("no DEEDS", x.count(2), 0);
         DUE.is("none kept", x.count(8), 0);
-        finds("on(0)", x.on(0), x, 1);
-        finds("on(2)", x.on(2), x, 1);
+        DUE.finds("on(0)", x.on(0), x, 1);
+        DUE.finds("on(2)", x.on(2), x, 1);
         DUE.is("all SAID", x.said(), 1);
         x.unsay(0);
         x.text(0, 0);
@@ -183,7 +178,7 @@ public final class TextsTest {
         long ahead = x.digest();
         DUE.is("heap(-1)", x.heap(-1), BAD);
         DUE.is("heap(4)", x.heap(4), BAD);
-        finds("heap(1)", x.heap(1), x, 1);
+        DUE.finds("heap(1)", x.heap(1), x, 1);
         DUE.is("nothing changed", x.digest(), ahead);
         Texts.write(x, 0, "s0101-s0101-x");
         ahead = x.digest();
@@ -274,7 +269,7 @@ public final class TextsTest {
         for (int i = 0; i < 6; i++) {
             for (int kind = 1; kind <= 5; kind++) {
                 if (fits[i].indexOf('0' + kind) < 0) {
-                    finds("mark(" + i + ", " + kind + ")", x.mark(i, kind), x, 3);
+                    DUE.finds("mark(" + i + ", " + kind + ")", x.mark(i, kind), x, 3);
                 } else {
                     DUE.holds("mark(" + i + ", " + kind + ") answers", x.mark(i, kind) >= 0);
                 }
