@@ -76,7 +76,7 @@ public final class HeapBoundsTest {
     }
 
     private static void itemsNoneOrTwelve() {
-        DUE.sentence("none, or 12 at most; a thirteenth one: its letter");
+        DUE.sentence("items are SAYINGS 0, 1, .. (none, or 12 at most; as they come) .. a thirteenth one: its letter");
         good("", 0);
         good(" ", 0);
         good("s0101-", 1);
@@ -93,7 +93,7 @@ public final class HeapBoundsTest {
     }
 
     private static void letters() {
-        DUE.sentence("a letter .. that is none such: its place");
+        DUE.sentence("a letter, a figure, a sign that is none such, .. its place");
         for (int sign = 0; sign < 128; sign++) {
             if ("sotpyc".indexOf(sign) >= 0) {
                 good((char) sign + "0101-", 1);
@@ -130,7 +130,7 @@ public final class HeapBoundsTest {
     }
 
     private static void personsUnlike() {
-        DUE.sentence("the same PERSON twice: its place");
+        DUE.sentence("the same PERSON twice, .. its place");
         for (int p = 0; p < 6; p++) {
             wrongAt(2, "s" + p + p + "01-");
             wrongAt(8, "s0101-s" + p + p);
@@ -235,10 +235,17 @@ public final class HeapBoundsTest {
         Texts.write(x, 1, "");
         DUE.is("heap of nothing", x.heap(1), 0);
         DUE.is("SAYINGS", x.count(0), 0);
+        DUE.tells("none SAID", x.said(), 0, x, 0);
         DUE.is("kept HEAPS", x.count(8), 0);
         Texts.write(x, 1, TWELVE);
         DUE.is("heap of twelve", x.heap(1), 12);
         DUE.is("SAYINGS", x.count(0), 12);
+        DUE.tells("all SAID", x.said(), 4095, x, 4095);
+        Texts.write(x, 1, "s0101-");
+        DUE.is("heap of one", x.heap(1), 1);
+        DUE.tells("one SAID", x.said(), 1, x, 1);
+        DUE.is("another one that comes", x.say(0, 10, 1, 0), 1);
+        DUE.tells("two SAID", x.said(), 3, x, 2);
     }
 
     private static void heapWithFault() {

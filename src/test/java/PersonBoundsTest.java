@@ -168,6 +168,7 @@ public final class PersonBoundsTest {
     private static void whoseNobody() {
         DUE.sentence("none TO WHOM it is, none WHO said that which it ANSWERS");
         DUE.is("TO WHOM it is", Texts.heapOf("s0101-t2101A").whose(1), 0);
+        DUE.is("who was told nothing", Texts.heapOf("s1201-t3401A").whose(1), 4);
         DUE.is("WHO is answered", Texts.heapOf("s0101-s2001-t3401A").whose(2), 2);
         DUE.is("both", Texts.heapOf("s0101-s2001-t3101A").whose(2), 0);
         DUE.is("who told something further ahead may", Texts.heapOf("s0101-s1001At2301B").whose(2), 1);

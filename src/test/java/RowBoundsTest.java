@@ -374,7 +374,7 @@ public final class RowBoundsTest {
     }
 
     private static void copyAsIfTakenAhead() {
-        DUE.sentence("another one (perhaps itself), from one on, as if taken ahead");
+        DUE.sentence("another one (perhaps itself) from one on, as if taken ahead");
         IronedQuarrels x = withRows();
         DUE.is("one up", x.copy(0, 0, 0, 1, 3), 1);
         Texts.rowIs(DUE, x, 0, 1, 1, 2, 3);

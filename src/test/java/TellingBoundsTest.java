@@ -27,6 +27,7 @@ public final class TellingBoundsTest {
         digestOfAll();
         digestWrapsAround();
         digestLeavesAsked();
+        lasts512Calls();
         DUE.finish("TellingBoundsTest");
     }
 
@@ -111,7 +112,7 @@ public final class TellingBoundsTest {
     // ---- Promises 38 and 39
 
     private static void upperAndLowerAhead() {
-        DUE.sentence("The upper number that was told last; 0 before. Its lower number; 1 before.");
+        DUE.sentence("The upper number that was told last; 0 before. .. Its lower number; 1 before.");
         IronedQuarrels x = new IronedQuarrels();
         DUE.is("upper()", x.upper(), 0);
         DUE.is("lower()", x.lower(), 1);
@@ -238,7 +239,7 @@ public final class TellingBoundsTest {
     }
 
     private static void findingsOneByOne() {
-        DUE.sentence("1 NOTHING, 2 BEYOND, 3 UNLIKE, 4 NOUGHT, 5 SIZE");
+        DUE.sentence("FINDINGS: 1 NOTHING .. 2 BEYOND .. 3 UNLIKE .. 4 NOUGHT .. 5 SIZE");
         IronedQuarrels x = Texts.heapOf("s0101-");
         x.row(0, 0);
         int[] often = {0, 0, 0, 0, 0, 0};
@@ -364,5 +365,21 @@ public final class TellingBoundsTest {
         DUE.is("what was asked is not in it", x.digest(), digest);
         x.at(0, 0);
         DUE.is("nor FINDINGS", x.digest(), digest);
+    }
+
+    private static void lasts512Calls() {
+        DUE.sentence("An object is used for at most 512 calls after it has been made");
+        IronedQuarrels x = new IronedQuarrels();
+        x.row(0, 1);
+        for (int call = 2; call <= 510; call++) {
+            x.lay(0, 0, call);
+        }
+        DUE.is("lay, call 511", x.lay(0, 0, 3), 1);
+        DUE.is("asked(), call 512", x.asked(), 510);
+        x = new IronedQuarrels();
+        for (int call = 1; call <= 511; call++) {
+            x.mean(0);
+        }
+        DUE.is("findings(1), call 512", x.findings(NOTHING), 511);
     }
 }
