@@ -118,6 +118,17 @@ public final class RulesTest {
         }
         DUE.holds("no package", !Pattern.compile("(?m)^package ").matcher(code).find());
         methodsAreShort(text);
+        objectsAreCounted(code);
+    }
+
+    /** All calls of a run live in one room: fields and constructors make rows, of the calls keep() alone. */
+    private static void objectsAreCounted(String code) {
+        Pattern counted = Pattern.compile("private final [\\w\\[\\]]+ \\w+ = new .*;|sizes = new int\\[number\\];"
+                + "|cells = new int\\[number \\* width\\];|place = new Heap\\(\\);");
+        for (String line : code.split("\n")) {
+            boolean makes = Pattern.compile("\\bnew\\b|\\.clone\\(|copyOf|substring|StringBuilder").matcher(line).find();
+            DUE.holds("counted: " + line.strip(), !makes || counted.matcher(line.strip()).matches());
+        }
     }
 
     /** A method begins at a line that ends with ") {" by the indent of a member, and ends at its "}". */
